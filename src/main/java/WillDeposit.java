@@ -444,11 +444,8 @@ public final class WillDeposit {
         if (k < 0 || what < 0 || what > 2) {
             return NONE;
         }
-        if (k >= told.deaths()) {
-            return MINUS_TWO;
-        }
-        int dead = NONE;
-        for (int i = 0; i <= k; i++) {
+        int dead = told.deathBehind(NONE);
+        for (int i = 0; i < k && dead != NONE; i++) {
             dead = told.deathBehind(dead);
         }
         if (!told.isPerson(dead)) {
@@ -1521,7 +1518,6 @@ public final class WillDeposit {
         /** Looks for the TAKER of the THING weighed last when a PERSON dies. */
         void chooseTaker(int person, int thing) {
             taker = NONE;
-            takersPaper = NONE;
             for (int i = 0; i < told.paperCount && taker == NONE; i++) {
                 takersPaper = told.latestFirst[i];
                 if (countsOf(person, takersPaper)) {

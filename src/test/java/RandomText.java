@@ -13,10 +13,13 @@ final class RandomText {
 
     private final Random random;
     private final int lastDay;
+    /** Between the DAYS that are told there may be some that are not. */
+    private final int step;
 
     RandomText(long seed) {
         random = new Random(seed);
         lastDay = random.nextInt(4) == 0 ? 9999 : 3 + random.nextInt(12);
+        step = lastDay < 9999 && random.nextInt(2) == 0 ? 1 + random.nextInt(6) : 1;
     }
 
     int below(int bound) {
@@ -24,7 +27,7 @@ final class RandomText {
     }
 
     int day() {
-        return random.nextInt(40) == 0 ? random.nextInt(2) * 9999 : random.nextInt(lastDay + 1);
+        return random.nextInt(40) == 0 ? random.nextInt(2) * 9999 : step * random.nextInt(lastDay + 1);
     }
 
     private static List<Integer> some(Random random, int of, int many) {

@@ -16,6 +16,7 @@ final class WayTest {
         hasBounds();
         heirsAlike();
         untilTheCrown();
+        partsOfTheCrown();
         likeDays();
         ownersDeadAtFirst();
         wealth();
@@ -98,6 +99,21 @@ final class WayTest {
         CHECK.due("wealth(NONE)", 999900, deposit.wealth(-1));
         CHECK.due("moves(0, 0)", 1, deposit.moves(0, 0));
         CHECK.due("moves(0, 1)", 0, deposit.moves(0, 1));
+    }
+
+    private static void partsOfTheCrown() {
+        WillDeposit deposit = CHECK.told("person a 0;person b 0;person c 0;person d 0;person e 0;child b a;child c a;"
+                + "child d c;child e c;thing t a 0 7;dies a 1;dies b 2;dies c 3;dies e 4;");
+        hasDue(deposit, -1, 0, 1, 0, 1);
+        // b has no CHILDREN, is not WED, and his PARENT is dead
+        hasDue(deposit, -1, 0, 2, 1, 2);
+        hasDue(deposit, -1, 0, 3, 1, 2);
+        hasDue(deposit, 4, 0, 3, 1, 4);
+        hasDue(deposit, -1, 0, 9999, 3, 4);
+        hasDue(deposit, 2, 0, 9999, 0, 1);
+        CHECK.due("wealth(NONE)", 525, deposit.wealth(-1));
+        CHECK.due("wealth(3)", 175, deposit.wealth(3));
+        CHECK.due("holders(0, 3)", CROWN | 0b11000, deposit.holders(0, 3));
     }
 
     private static void likeDays() {

@@ -177,6 +177,13 @@ final class WouldTest {
         CHECK.due("the day behind that of the PAPER", 9999, deposit.dayFor(2, 3, 0));
         deposit.dies(3, 9999);
         CHECK.due("he dies that DAY", -2, deposit.dayFor(2, 3, 0));
+        WillDeposit first = CHECK.told("person a 0;person b 0;person c 0;child b a;child c b;thing t b 0 9;dies a 30;dies b 40;");
+        CHECK.due("his CHILD takes on any DAY", 0, first.dayFor(1, 2, 0));
+        first.dies(2, 35);
+        CHECK.due("his PARENT never LIVES longer", -2, first.dayFor(1, 0, 0));
+        WillDeposit alone = CHECK.told("land 0 0;person a 0;person b 0;person c 0;thing t b 0 9;"
+                + "paper p b 0 0 will give t c unless a;dies a 30;");
+        CHECK.due("from the DAY of another one's death on", 30, alone.dayFor(1, 2, 0));
         WillDeposit later = CHECK.told("land 0 0;person a 0;person b 0;person c 0;thing t a 0 9;wed a b 40;wed a c 50;"
                 + "dies b 44;");
         CHECK.due("HEIR behind the wedding", 51, later.dayFor(0, 2, 0));
