@@ -674,11 +674,8 @@ public final class WillDeposit {
         final int[] givePerson = new int[MAX_GIVES];
         final int[] giveElse = new int[MAX_GIVES];
 
+        /** Forgets what a LINE may leave unsaid; the rest each LINE says anew. */
         void clear() {
-            maker = 0;
-            day = 0;
-            land = 0;
-            kind = WILL;
             ownHand = false;
             witnesses = 0;
             struck = 0;
