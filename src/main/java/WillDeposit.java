@@ -111,7 +111,7 @@ public final class WillDeposit {
             case 1: return orMinusTwo(one.deathDay);
             case 2: return told.childrenOf(p);
             case 3: return one.parents;
-            case 4: return orMinusTwo(told.lastWedAhead(p, LAST_DAY + 1));
+            case 4: return orMinusTwo(told.lastWedUpTo(p, LAST_DAY));
             default: throw new NoSuchElementException("no such what");
         }
     }
@@ -845,13 +845,13 @@ public final class WillDeposit {
             return bits;
         }
 
-        /** To whom a PERSON was WED last ahead of a DAY, of like DAYS as told last; NONE if to nobody. */
-        int lastWedAhead(int person, int day) {
+        /** To whom a PERSON was WED last up to a DAY, that DAY's too, of like DAYS as told last; NONE if to nobody. */
+        int lastWedUpTo(int person, int day) {
             int spouse = NONE;
             int latest = NONE;
             for (int w = 0; w < wedCount; w++) {
                 boolean weds = wedOne[w] == person || wedOther[w] == person;
-                if (weds && wedDay[w] < day && wedDay[w] >= latest) {
+                if (weds && wedDay[w] <= day && wedDay[w] >= latest) {
                     latest = wedDay[w];
                     spouse = wedOne[w] == person ? wedOther[w] : wedOne[w];
                 }
@@ -878,7 +878,7 @@ public final class WillDeposit {
             if (children != 0) {
                 return children;
             }
-            int spouse = lastWedAhead(person, day);
+            int spouse = lastWedUpTo(person, day);
             if (spouse != NONE && (living >> spouse & 1) != 0) {
                 return 1 << spouse;
             }

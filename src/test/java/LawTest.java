@@ -284,13 +284,27 @@ final class LawTest {
     private static void spouses() {
         WillDeposit deposit = CHECK.told(FIVE + "wed a b 5;wed c a 5;wed d a 4;dies a 9;");
         CHECK.due("of like DAYS that told last", 0b00100, deposit.heirs(0));
-        deposit.wed(0, 4, 9);
-        CHECK.due("one of the DAY of his death comes too late", 0b00100, deposit.heirs(0));
+        deposit.wed(0, 4, 10);
+        CHECK.due("one behind the DAY of his death comes too late", 0b00100, deposit.heirs(0));
+        deposit.wed(3, 0, 9);
+        CHECK.due("one of the DAY of his death counts", 0b01000, deposit.heirs(0));
+        CHECK.due("who has a right as HEIR", 1, spouseSees());
+        deposit.dies(3, 9);
+        CHECK.due("who died that DAY: no earlier one instead", 0, deposit.heirs(0));
+        deposit.undo();
+        deposit.undo();
         deposit.wed(0, 4, 8);
         CHECK.due("the last one", 0b10000, deposit.heirs(0));
         deposit.dies(4, 9);
         CHECK.due("if that one LIVES: no earlier one instead", 0, deposit.heirs(0));
         CHECK.due("of all DAYS", 4, Check.person(deposit, 0, 4));
+    }
+
+    /** Whether one who was WED to the MAKER on the DAY of his death sees his PAPER. */
+    private static int spouseSees() {
+        WillDeposit deposit = CHECK.told(FIVE + "paper p a 5 0 will;wed a b 5;wed a d 9;dies a 9;");
+        CHECK.due("the one WED ahead is no HEIR", 0, deposit.sees(1, 0, 9));
+        return deposit.sees(3, 0, 9);
     }
 
     private static void naming() {

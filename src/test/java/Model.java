@@ -289,11 +289,11 @@ final class Model {
         return all;
     }
 
-    int wedLast(int person, int ahead) {
+    int wedLast(int person, int upTo) {
         int spouse = -2;
         int day = -1;
         for (Wedding w : weddings) {
-            if (w.day < ahead && w.day >= day && (w.one == person || w.other == person)) {
+            if (w.day <= upTo && w.day >= day && (w.one == person || w.other == person)) {
                 spouse = w.one + w.other - person;
                 day = w.day;
             }

@@ -15,6 +15,7 @@ final class WayTest {
         half();
         hasBounds();
         heirsAlike();
+        wedOnTheDayOfDeath();
         untilTheCrown();
         partsOfTheCrown();
         likeDays();
@@ -89,6 +90,21 @@ final class WayTest {
         deposit.dies(2, 6);
         CHECK.due("holders(0, 5)", 0b100, deposit.holders(0, 5));
         hasDue(deposit, 2, 0, 5, 1, 1);
+    }
+
+    private static void wedOnTheDayOfDeath() {
+        WillDeposit deposit = CHECK.told("land 0 0;person a 0;person b 0;person c 0;thing t a 0 9;wed a b 1;wed a c 5;"
+                + "paper p a 0 0 adds give t b;dies a 5;");
+        CHECK.due("gain(2, 0): without the PAPER he takes", -900, deposit.gain(2, 0));
+        CHECK.due("against(2, 0)", 0, deposit.against(2, 0));
+        deposit.takeBack(0);
+        hasDue(deposit, 2, 0, 5, 1, 1);
+        CHECK.due("holders(0, 5)", 0b100, deposit.holders(0, 5));
+        CHECK.due("wealth(2)", 900, deposit.wealth(2));
+        CHECK.due("ever(2)", 1, deposit.ever(2));
+        CHECK.due("ever(1)", 0, deposit.ever(1));
+        deposit.dies(0, 4);
+        CHECK.due("holders(0, 4)", 0b10, deposit.holders(0, 4));
     }
 
     private static void untilTheCrown() {

@@ -186,10 +186,19 @@ final class WouldTest {
         CHECK.due("from the DAY of another one's death on", 30, alone.dayFor(1, 2, 0));
         WillDeposit later = CHECK.told("land 0 0;person a 0;person b 0;person c 0;thing t a 0 9;wed a b 40;wed a c 50;"
                 + "dies b 44;");
-        CHECK.due("HEIR behind the wedding", 51, later.dayFor(0, 2, 0));
+        CHECK.due("HEIR from the DAY of the wedding on", 50, later.dayFor(0, 2, 0));
         CHECK.due("he dies himself", -2, later.dayFor(0, 1, 0));
         later.dies(1, -1);
-        CHECK.due("HEIR between two weddings", 41, later.dayFor(0, 1, 0));
+        CHECK.due("HEIR between two weddings", 40, later.dayFor(0, 1, 0));
+        CHECK.due("HOLDERS ahead of both", CROWN, later.wouldDie(0, 39, 0));
+        CHECK.due("HOLDERS on the DAY of the first one", 0b10, later.wouldDie(0, 40, 0));
+        CHECK.due("HOLDERS on the DAY of the second one", 0b100, later.wouldDie(0, 50, 0));
+        later.wed(0, 1, 9999);
+        CHECK.due("a wedding of the last DAY", 0b10, later.wouldDie(0, 9999, 0));
+        WillDeposit broken = CHECK.told("land 0 0 wed;person a 0;person b 0;person c 0;thing t a 0 9;wed a b 40;"
+                + "paper p a 20 0 will give t c;");
+        CHECK.due("a wedding of the DAY of death doesn't BREAK", 0b100, broken.wouldDie(0, 40, 0));
+        CHECK.due("one ahead of it does", 41, broken.dayFor(0, 1, 0));
     }
 
     private static void nothingIsChanged() {
