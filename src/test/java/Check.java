@@ -24,6 +24,10 @@ final class Check {
         due(call, want ? 1 : 0, got ? 1 : 0);
     }
 
+    void due(String call, String want, String got) {
+        due(call + ": " + got + ", due is " + want, want.equals(got), true);
+    }
+
     /** Ends the test: exit code 1 if one answer was wrong, or none was asked for. */
     void end() {
         System.out.println(name + ": " + asked + " answers, " + wrong + " wrong");
@@ -40,6 +44,30 @@ final class Check {
             System.out.println(name + ": fault " + deposit.fault(0) + " at " + deposit.fault(1) + " of: " + text);
         }
         return deposit;
+    }
+
+    /** A text without a FAULT, of so many LINES. */
+    void good(String text, int lines) {
+        WillDeposit deposit = new WillDeposit();
+        due("text of " + text, lines, read(deposit, text));
+        due("fault(0) of " + text, 0, deposit.fault(0));
+        due("fault(1) of " + text, -1, deposit.fault(1));
+        due("count(0) of " + text, lines, deposit.count(0));
+    }
+
+    /** A text with a FAULT at a place. */
+    void bad(String text, int number, int place) {
+        WillDeposit deposit = new WillDeposit();
+        due("text of " + text, -1, read(deposit, text));
+        due("fault(0) of " + text, number, deposit.fault(0));
+        due("fault(1) of " + text, place, deposit.fault(1));
+        due("count(0) of " + text, 0, deposit.count(0));
+    }
+
+    /** A text with a FAULT at the sign ^, which is taken out of it. */
+    void bad(String marked, int number) {
+        int place = marked.indexOf('^');
+        bad(marked.substring(0, place) + marked.substring(place + 1), number, place);
     }
 
     /** What text() answers of a text on an empty tape, filled up with blanks to whole feeds. */

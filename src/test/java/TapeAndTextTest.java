@@ -145,153 +145,132 @@ final class TapeAndTextTest {
         CHECK.due("parents of b", 0, Check.person(deposit, 1, 3));
     }
 
-    private static void good(String text, int lines) {
-        WillDeposit deposit = new WillDeposit();
-        CHECK.due("text of " + text, lines, Check.read(deposit, text));
-        CHECK.due("fault(0) of " + text, 0, deposit.fault(0));
-        CHECK.due("fault(1) of " + text, -1, deposit.fault(1));
-        CHECK.due("count(0) of " + text, lines, deposit.count(0));
-    }
-
     private static void goodTexts() {
-        good("", 0);
-        good(" \n ", 0);
-        good("land 0 0;", 1);
-        good("land0 0own wed\ncopies half ; land 1 4 half own;", 2);
-        good("person a 0;person abcde 1;person\nz 0\n;", 3);
-        good("land 00 004;person a 01;dies a 0009999;", 3);
-        good("person a 0;thing a a 0 1;paper a a 0 0 will;thing b a 1 9999;", 4);
-        good("person a 0;dies a 0;", 2);
-        good("person a 0;person b 0;person c 0;child c b;child c a;wed a b 0;wed b a 9999;wed a c 0;", 8);
-        good("person a 0;person b 0;wed a b 1;wed a b 1;wed a b 1;wed a b 1;wed a b 1;wed a b 1;", 8);
-        good("person a 0;person b 0;thing t a 0 5;paper p b 3 0 strikes rest b give t b give t b if b or a "
+        CHECK.good("", 0);
+        CHECK.good(" \n ", 0);
+        CHECK.good("land 0 0;", 1);
+        CHECK.good("land0 0own wed\ncopies half ; land 1 4 half own;", 2);
+        CHECK.good("person a 0;person abcde 1;person\nz 0\n;", 3);
+        CHECK.good("land 00 004;person a 01;dies a 0009999;", 3);
+        CHECK.good("person a 0;thing a a 0 1;paper a a 0 0 will;thing b a 1 9999;", 4);
+        CHECK.good("person a 0;dies a 0;", 2);
+        CHECK.good("person a 0;person b 0;person c 0;child c b;child c a;wed a b 0;wed b a 9999;wed a c 0;", 8);
+        CHECK.good("person a 0;person b 0;wed a b 1;wed a b 1;wed a b 1;wed a b 1;wed a b 1;wed a b 1;", 8);
+        CHECK.good("person a 0;person b 0;thing t a 0 5;paper p b 3 0 strikes rest b give t b give t b if b or a "
                 + "give t a unless a give t a or b own;", 4);
-        good("person a 0;paper p a 3 0 will;paper q a 2 0 adds strike p;paper r a 1 0 adds strike q strike p;"
+        CHECK.good("person a 0;paper p a 3 0 will;paper q a 2 0 adds strike p;paper r a 1 0 adds strike q strike p;"
                 + "lost p 0;lost q 3;", 6);
-        good("person a 0;person b 0;paper p a 3 0 will;paper q b 2 0 strikes;paper r a 2 1 strikes strike p;", 5);
-        good("person a 0;person b 0;person c 0;person d 0;person e 0;"
+        CHECK.good("person a 0;person b 0;paper p a 3 0 will;paper q b 2 0 strikes;paper r a 2 1 strikes strike p;", 5);
+        CHECK.good("person a 0;person b 0;person c 0;person d 0;person e 0;"
                 + "paper p a 1 0 will witness b witness c witness d witness e;", 6);
-        good("person aa 0;person a 0;person aaa 0;person ab 0;person ba 0;", 5);
-    }
-
-    private static void bad(String text, int number, int place) {
-        WillDeposit deposit = new WillDeposit();
-        CHECK.due("text of " + text, -1, Check.read(deposit, text));
-        CHECK.due("fault(0) of " + text, number, deposit.fault(0));
-        CHECK.due("fault(1) of " + text, place, deposit.fault(1));
-    }
-
-    /** A FAULT at the sign ^, which is taken out of the text. */
-    private static void bad(String marked, int number) {
-        int place = marked.indexOf('^');
-        bad(marked.substring(0, place) + marked.substring(place + 1), number, place);
+        CHECK.good("person aa 0;person a 0;person aaa 0;person ab 0;person ba 0;", 5);
     }
 
     private static void tokensThatAreNone() {
-        bad("^$", 1);
-        bad("^A", 1);
-        bad("land 0 2^\t;", 1);
-        bad("land 0 2^\r;", 1);
-        bad("land 0 ^-2;", 1);
-        bad("land 0 2^.5;", 1);
-        bad("person ab^C 0;", 1);
-        bad("person ^abcdef 0;", 1);
-        bad("^persons a 0;", 1);
-        bad("^lan 0 2;", 1);
-        bad("person a 0;wed ^abcdefgh a 0;", 1);
-        bad("land 0 2^\u0000;", 1);
-        bad("land 0 2^\u00a0;", 1);
-        bad("land 0 2^\u00ff;", 1);
-        bad("^`", 1);
-        bad("^{", 1);
-        bad("land ^/ 2;", 1);
-        bad("land 0^: 2;", 1);
+        CHECK.bad("^$", 1);
+        CHECK.bad("^A", 1);
+        CHECK.bad("land 0 2^\t;", 1);
+        CHECK.bad("land 0 2^\r;", 1);
+        CHECK.bad("land 0 ^-2;", 1);
+        CHECK.bad("land 0 2^.5;", 1);
+        CHECK.bad("person ab^C 0;", 1);
+        CHECK.bad("person ^abcdef 0;", 1);
+        CHECK.bad("^persons a 0;", 1);
+        CHECK.bad("^lan 0 2;", 1);
+        CHECK.bad("person a 0;wed ^abcdefgh a 0;", 1);
+        CHECK.bad("land 0 2^\u0000;", 1);
+        CHECK.bad("land 0 2^\u00a0;", 1);
+        CHECK.bad("land 0 2^\u00ff;", 1);
+        CHECK.bad("^`", 1);
+        CHECK.bad("^{", 1);
+        CHECK.bad("land ^/ 2;", 1);
+        CHECK.bad("land 0^: 2;", 1);
     }
 
     private static void tokensThatCannotStand() {
-        bad("^;", 1);
-        bad("land 0 2;^;", 1);
-        bad("^a;", 1);
-        bad("^3;", 1);
-        bad("^own;", 1);
-        bad("land ^a 2;", 1);
-        bad("land 0^;", 1);
-        bad("land 0 2 ^rest;", 1);
-        bad("land 0 2 own ^3;", 1);
-        bad("land 0 2 own ^a;", 1);
-        bad("person ^3 0;", 1);
-        bad("person ^land 0;", 1);
-        bad("person ^strikes 0;", 1);
-        bad("person ^or 0;", 1);
-        bad("person a ^b;", 1);
-        bad("person a 0 ^1;", 1);
-        bad("person a 0;paper p a 0 0 ^own;", 1);
-        bad("person a 0;paper p a 0 0 ^strike;", 1);
-        bad("person a 0;paper p a 0 0 ^;", 1);
-        bad("person a 0;paper p a 0 0 will ^a;", 1);
-        bad("person a 0;paper p a 0 0 will ^half;", 1);
-        bad("person a 0;paper p a 0 0 will ^if a;", 1);
-        bad("person a 0;paper p a 0 0 will rest a ^or a;", 1);
-        bad("person a 0;paper p a 0 0 will rest ^own;", 1);
-        bad("person a 0;person b 0;thing t a 0 1;paper p a 0 0 will give t a if a ^unless b;", 1);
-        bad("person a 0;person b 0;thing t a 0 1;paper p a 0 0 will give t a or b ^if b;", 1);
-        bad("person a 0;dies a ^a;", 1);
-        bad("person a 0;dies a 5 ^6;", 1);
+        CHECK.bad("^;", 1);
+        CHECK.bad("land 0 2;^;", 1);
+        CHECK.bad("^a;", 1);
+        CHECK.bad("^3;", 1);
+        CHECK.bad("^own;", 1);
+        CHECK.bad("land ^a 2;", 1);
+        CHECK.bad("land 0^;", 1);
+        CHECK.bad("land 0 2 ^rest;", 1);
+        CHECK.bad("land 0 2 own ^3;", 1);
+        CHECK.bad("land 0 2 own ^a;", 1);
+        CHECK.bad("person ^3 0;", 1);
+        CHECK.bad("person ^land 0;", 1);
+        CHECK.bad("person ^strikes 0;", 1);
+        CHECK.bad("person ^or 0;", 1);
+        CHECK.bad("person a ^b;", 1);
+        CHECK.bad("person a 0 ^1;", 1);
+        CHECK.bad("person a 0;paper p a 0 0 ^own;", 1);
+        CHECK.bad("person a 0;paper p a 0 0 ^strike;", 1);
+        CHECK.bad("person a 0;paper p a 0 0 ^;", 1);
+        CHECK.bad("person a 0;paper p a 0 0 will ^a;", 1);
+        CHECK.bad("person a 0;paper p a 0 0 will ^half;", 1);
+        CHECK.bad("person a 0;paper p a 0 0 will ^if a;", 1);
+        CHECK.bad("person a 0;paper p a 0 0 will rest a ^or a;", 1);
+        CHECK.bad("person a 0;paper p a 0 0 will rest ^own;", 1);
+        CHECK.bad("person a 0;person b 0;thing t a 0 1;paper p a 0 0 will give t a if a ^unless b;", 1);
+        CHECK.bad("person a 0;person b 0;thing t a 0 1;paper p a 0 0 will give t a or b ^if b;", 1);
+        CHECK.bad("person a 0;dies a ^a;", 1);
+        CHECK.bad("person a 0;dies a 5 ^6;", 1);
         for (String word : ("land person child wed thing paper lost dies own copies half will adds strikes witness "
                 + "give if unless or rest strike").split(" ")) {
-            bad("person ^" + word + " 0;", 1);
+            CHECK.bad("person ^" + word + " 0;", 1);
         }
     }
 
     private static void wordsThatAreNotTold() {
-        bad("person a 0;child ^b a;", 1);
-        bad("person a 0;child a ^b;", 1);
-        bad("wed ^a b 0;", 1);
-        bad("person a 0;wed a ^b 0;", 1);
-        bad("thing t ^a 0 1;", 1);
-        bad("person a 0;thing t ^t 0 1;", 1);
-        bad("paper p ^a 0 0 will;", 1);
-        bad("person a 0;paper p a 0 0 will witness ^b;", 1);
-        bad("person a 0;paper p a 0 0 will give ^t a;", 1);
-        bad("person a 0;thing t a 0 1;paper p a 0 0 will give t ^b;", 1);
-        bad("person a 0;thing t a 0 1;paper p a 0 0 will give t a if ^b;", 1);
-        bad("person a 0;thing t a 0 1;paper p a 0 0 will give t a unless a or ^b;", 1);
-        bad("person a 0;paper p a 0 0 will rest ^b;", 1);
-        bad("person a 0;paper p a 0 0 will strike ^q;", 1);
-        bad("person a 0;paper p a 0 0 will strike ^p;", 1);
-        bad("person a 0;lost ^a 0;", 1);
-        bad("person a 0;paper p a 0 0 will;dies ^p 0;", 1);
-        bad("dies ^a 0;person a 0;", 1);
+        CHECK.bad("person a 0;child ^b a;", 1);
+        CHECK.bad("person a 0;child a ^b;", 1);
+        CHECK.bad("wed ^a b 0;", 1);
+        CHECK.bad("person a 0;wed a ^b 0;", 1);
+        CHECK.bad("thing t ^a 0 1;", 1);
+        CHECK.bad("person a 0;thing t ^t 0 1;", 1);
+        CHECK.bad("paper p ^a 0 0 will;", 1);
+        CHECK.bad("person a 0;paper p a 0 0 will witness ^b;", 1);
+        CHECK.bad("person a 0;paper p a 0 0 will give ^t a;", 1);
+        CHECK.bad("person a 0;thing t a 0 1;paper p a 0 0 will give t ^b;", 1);
+        CHECK.bad("person a 0;thing t a 0 1;paper p a 0 0 will give t a if ^b;", 1);
+        CHECK.bad("person a 0;thing t a 0 1;paper p a 0 0 will give t a unless a or ^b;", 1);
+        CHECK.bad("person a 0;paper p a 0 0 will rest ^b;", 1);
+        CHECK.bad("person a 0;paper p a 0 0 will strike ^q;", 1);
+        CHECK.bad("person a 0;paper p a 0 0 will strike ^p;", 1);
+        CHECK.bad("person a 0;lost ^a 0;", 1);
+        CHECK.bad("person a 0;paper p a 0 0 will;dies ^p 0;", 1);
+        CHECK.bad("dies ^a 0;person a 0;", 1);
     }
 
     private static void moreMustCome() {
-        bad("land", 1, 4);
-        bad("land ", 1, 5);
-        bad("land 0 2", 1, 8);
-        bad("land 0 2 \n ", 1, 11);
-        bad("land 0 2 own", 1, 12);
-        bad("person a 0;paper p a 0 0 will rest", 1, 34);
-        bad("person a 0;thing t a 0 1;paper p a 0 0 will give t a or", 1, 55);
-        bad("person a 0;dies a 5", 1, 19);
-        bad("perso", 1, 0);
+        CHECK.bad("land", 1, 4);
+        CHECK.bad("land ", 1, 5);
+        CHECK.bad("land 0 2", 1, 8);
+        CHECK.bad("land 0 2 \n ", 1, 11);
+        CHECK.bad("land 0 2 own", 1, 12);
+        CHECK.bad("person a 0;paper p a 0 0 will rest", 1, 34);
+        CHECK.bad("person a 0;thing t a 0 1;paper p a 0 0 will give t a or", 1, 55);
+        CHECK.bad("person a 0;dies a 5", 1, 19);
+        CHECK.bad("perso", 1, 0);
     }
 
     private static void numbersBeyond() {
-        bad("land ^2 2;", 2);
-        bad("land ^10 2;", 2);
-        bad("land 0 ^5;", 2);
-        bad("person a ^2;", 2);
-        bad("person a 0;thing t a ^2 1;", 2);
-        bad("person a 0;thing t a 0 ^0;", 2);
-        bad("person a 0;thing t a 0 ^10000;", 2);
-        bad("person a 0;person b 0;wed a b ^10000;", 2);
-        bad("person a 0;paper p a ^10000 0 will;", 2);
-        bad("person a 0;paper p a 0 ^2 will;", 2);
-        bad("person a 0;paper p a 0 0 will;lost p ^4;", 2);
-        bad("person a 0;dies a ^10000;", 2);
-        bad("person a 0;dies a ^4294967296;", 2);
-        bad("person a 0;dies a ^18446744073709551617;", 2);
-        bad("person a 0;dies a ^99999999999999999999999999999999999999999999;", 2);
+        CHECK.bad("land ^2 2;", 2);
+        CHECK.bad("land ^10 2;", 2);
+        CHECK.bad("land 0 ^5;", 2);
+        CHECK.bad("person a ^2;", 2);
+        CHECK.bad("person a 0;thing t a ^2 1;", 2);
+        CHECK.bad("person a 0;thing t a 0 ^0;", 2);
+        CHECK.bad("person a 0;thing t a 0 ^10000;", 2);
+        CHECK.bad("person a 0;person b 0;wed a b ^10000;", 2);
+        CHECK.bad("person a 0;paper p a ^10000 0 will;", 2);
+        CHECK.bad("person a 0;paper p a 0 ^2 will;", 2);
+        CHECK.bad("person a 0;paper p a 0 0 will;lost p ^4;", 2);
+        CHECK.bad("person a 0;dies a ^10000;", 2);
+        CHECK.bad("person a 0;dies a ^4294967296;", 2);
+        CHECK.bad("person a 0;dies a ^18446744073709551617;", 2);
+        CHECK.bad("person a 0;dies a ^99999999999999999999999999999999999999999999;", 2);
     }
 
     private static String persons(int many) {
@@ -307,73 +286,73 @@ final class TapeAndTextTest {
     }
 
     private static void oneMoreThanTold() {
-        good(persons(10), 10);
-        bad(persons(10) + "^person a 0;", 2);
-        bad(persons(10) + "^person", 2);
+        CHECK.good(persons(10), 10);
+        CHECK.bad(persons(10) + "^person a 0;", 2);
+        CHECK.bad(persons(10) + "^person", 2);
         StringBuilder things = new StringBuilder(persons(1));
         for (int t = 0; t < 8; t++) {
             things.append("thing ").append((char) ('a' + t)).append(" a 0 1;");
         }
-        good(things.toString(), 9);
-        bad(things + "^thing z a 0 1;", 2);
+        CHECK.good(things.toString(), 9);
+        CHECK.bad(things + "^thing z a 0 1;", 2);
         StringBuilder papers = new StringBuilder(persons(1));
         for (int p = 0; p < 12; p++) {
             papers.append("paper ").append((char) ('a' + p)).append(" a 0 0 will;");
         }
-        good(papers.toString(), 13);
-        bad(papers + "^paper z a 0 0 will;", 2);
-        bad(persons(2) + repeat("wed a b 1;", 6) + "^wed a b 1;", 2);
-        bad(persons(6) + "paper p a 0 0 will witness b witness c witness d witness e ^witness b;", 2);
+        CHECK.good(papers.toString(), 13);
+        CHECK.bad(papers + "^paper z a 0 0 will;", 2);
+        CHECK.bad(persons(2) + repeat("wed a b 1;", 6) + "^wed a b 1;", 2);
+        CHECK.bad(persons(6) + "paper p a 0 0 will witness b witness c witness d witness e ^witness b;", 2);
         String give = persons(1) + "thing t a 0 1;paper p a 0 0 will" + repeat(" give t a", 6);
-        good(give + ";", 3);
-        bad(give + " ^give t a;", 2);
+        CHECK.good(give + ";", 3);
+        CHECK.bad(give + " ^give t a;", 2);
         String strike = papers.substring(0, persons(1).length() + 4 * "paper a a 0 0 will;".length())
                 + "paper p a 0 0 will strike a strike b strike c";
-        good(strike + ";", 6);
-        bad(strike + " ^strike d;", 2);
+        CHECK.good(strike + ";", 6);
+        CHECK.bad(strike + " ^strike d;", 2);
     }
 
     private static void toldAlready() {
-        bad("land 0 2;land 1 2;land ^0 2;", 3);
-        bad("land 1 2;land ^1 2;", 3);
+        CHECK.bad("land 0 2;land 1 2;land ^0 2;", 3);
+        CHECK.bad("land 1 2;land ^1 2;", 3);
         for (String right : new String[] {"own", "wed", "copies", "half"}) {
-            bad("land 0 2 " + right + " ^" + right + ";", 3);
-            bad("land 0 2 own wed copies half ^" + right + ";", 3);
-            good("land 0 2 " + right + ";land 1 2 " + right + ";", 2);
+            CHECK.bad("land 0 2 " + right + " ^" + right + ";", 3);
+            CHECK.bad("land 0 2 own wed copies half ^" + right + ";", 3);
+            CHECK.good("land 0 2 " + right + ";land 1 2 " + right + ";", 2);
         }
-        bad("person a 0;person ^a 1;", 3);
-        bad("person abcde 0;person abcdf 0;person ^abcde 1;", 3);
-        bad("person a 0;thing t a 0 1;thing ^t a 0 1;", 3);
-        bad("person a 0;paper p a 0 0 will;paper ^p a 0 0 will;", 3);
-        bad("person a 0;person b 0;child b a;child b ^a;", 3);
-        bad("person a 0;person b 0;person c 0;person d 0;child d a;child d b;child d ^c;", 3);
-        bad("person a 0;paper p a 0 0 will own ^own;", 3);
-        bad("person a 0;paper p a 0 0 will rest a ^rest a;", 3);
-        bad("person a 0;person b 0;paper p a 0 0 will witness b own witness ^b;", 3);
-        bad("person a 0;paper q a 0 0 will;paper p a 0 0 will strike q strike ^q;", 3);
-        bad("person a 0;paper q a 0 0 will;lost q 0;lost ^q 0;", 3);
-        bad("person a 0;dies a 0;dies ^a 1;", 3);
+        CHECK.bad("person a 0;person ^a 1;", 3);
+        CHECK.bad("person abcde 0;person abcdf 0;person ^abcde 1;", 3);
+        CHECK.bad("person a 0;thing t a 0 1;thing ^t a 0 1;", 3);
+        CHECK.bad("person a 0;paper p a 0 0 will;paper ^p a 0 0 will;", 3);
+        CHECK.bad("person a 0;person b 0;child b a;child b ^a;", 3);
+        CHECK.bad("person a 0;person b 0;person c 0;person d 0;child d a;child d b;child d ^c;", 3);
+        CHECK.bad("person a 0;paper p a 0 0 will own ^own;", 3);
+        CHECK.bad("person a 0;paper p a 0 0 will rest a ^rest a;", 3);
+        CHECK.bad("person a 0;person b 0;paper p a 0 0 will witness b own witness ^b;", 3);
+        CHECK.bad("person a 0;paper q a 0 0 will;paper p a 0 0 will strike q strike ^q;", 3);
+        CHECK.bad("person a 0;paper q a 0 0 will;lost q 0;lost ^q 0;", 3);
+        CHECK.bad("person a 0;dies a 0;dies ^a 1;", 3);
     }
 
     private static void cannotBe() {
-        bad("person a 0;person b 0;child a ^b;", 3);
-        bad("person a 0;child a ^a;", 3);
-        bad("person a 0;wed a ^a 0;", 3);
-        bad("person a 0;paper p a 0 0 will witness ^a;", 3);
-        bad("person a 0;person b 0;paper q b 0 0 will;paper p a 0 0 will strike ^q;", 3);
-        bad("person a 0;thing t a 0 1;paper p a 0 0 will give t a or ^a;", 3);
-        bad("person a 0;person b 0;thing t a 0 1;paper p a 0 0 will give t b if a or ^b;", 3);
+        CHECK.bad("person a 0;person b 0;child a ^b;", 3);
+        CHECK.bad("person a 0;child a ^a;", 3);
+        CHECK.bad("person a 0;wed a ^a 0;", 3);
+        CHECK.bad("person a 0;paper p a 0 0 will witness ^a;", 3);
+        CHECK.bad("person a 0;person b 0;paper q b 0 0 will;paper p a 0 0 will strike ^q;", 3);
+        CHECK.bad("person a 0;thing t a 0 1;paper p a 0 0 will give t a or ^a;", 3);
+        CHECK.bad("person a 0;person b 0;thing t a 0 1;paper p a 0 0 will give t b if a or ^b;", 3);
     }
 
     private static void firstFaultAlongTheText() {
-        bad("land ^2 9 own own;", 2);
-        bad("land 0 ^9 own own;", 2);
-        bad("land 0 4 own ^own x;", 3);
-        bad("land 0 4;land ^0 9;", 3);
-        bad("person ^abcdef 7", 1);
-        bad("person a 0;wed a ^a 10000;", 3);
-        bad("person a 0;wed ^b b 10000;", 1);
-        bad("person a 0;paper p a 0 0 will own ^own $", 3);
-        bad("person a 0;child a ^b x;", 1);
+        CHECK.bad("land ^2 9 own own;", 2);
+        CHECK.bad("land 0 ^9 own own;", 2);
+        CHECK.bad("land 0 4 own ^own x;", 3);
+        CHECK.bad("land 0 4;land ^0 9;", 3);
+        CHECK.bad("person ^abcdef 7", 1);
+        CHECK.bad("person a 0;wed a ^a 10000;", 3);
+        CHECK.bad("person a 0;wed ^b b 10000;", 1);
+        CHECK.bad("person a 0;paper p a 0 0 will own ^own $", 3);
+        CHECK.bad("person a 0;child a ^b x;", 1);
     }
 }
