@@ -579,5 +579,23 @@ final class EmptyAndFullTest {
         CHECK.due("text", 8, Check.readOver(d, start + ";dies a 9;dies c 9;"));
         CHECK.due("taker without a GIVE", -2, d.taker(0, 0));
         CHECK.due("naming(0, 2)", 0, d.naming(0, 2));
+        askedFirst(start + " give t b;dies a 1;");
+    }
+
+    /** PAPER 0 is made too late: what is asked first of a new object answers so, without another question ahead of it. */
+    private static void askedFirst(String text) {
+        CHECK.due("takerBy asked first", -2, CHECK.told(text).takerBy(0, 0));
+        CHECK.due("taker asked first", -2, CHECK.told(text).taker(0, 0));
+        CHECK.due("why asked first", 2, CHECK.told(text).why(0, 0));
+        CHECK.due("counting asked first", -2, CHECK.told(text).counting(0, 0, 0));
+        CHECK.due("holders asked first", CROWN, CHECK.told(text).holders(0, 1));
+        CHECK.due("wealth asked first", 0, CHECK.told(text).wealth(1));
+        CHECK.due("ever asked first", 0, CHECK.told(text).ever(1));
+        CHECK.due("gain asked first", 0, CHECK.told(text).gain(1, 0));
+        CHECK.due("key asked first", 0, CHECK.told(text).key(1));
+        CHECK.due("moves asked first", 1, CHECK.told(text).moves(0, 1));
+        CHECK.due("death asked first", 1, CHECK.told(text).death(0, 2));
+        CHECK.due("wouldDie asked first", 0b010, CHECK.told(text).wouldDie(0, 2, 0));
+        CHECK.due("dayFor asked first", 2, CHECK.told(text).dayFor(0, 1, 0));
     }
 }
